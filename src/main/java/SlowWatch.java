@@ -258,11 +258,11 @@ public final class SlowWatch {
         if (!row.there) {
             return refuseWith(NOTHING);
         }
-        bringUpToDate(row);
+        bringRowsUpToDate(found);
         if (!row.hasCut(i)) {
             return NONE;
         }
-        return isItsOwn(found, row, i) ? 1 : 0;
+        return isItsOwn(found, machine, i) ? 1 : 0;
     }
 
     public int undone(int test, int machine, int i) {
@@ -309,7 +309,11 @@ public final class SlowWatch {
         int before = alarmCount;
         int first = 0;
         for (int t = 0; t < testCount; t++) {
-            for (int m = 0; m < MACHINES && tests[t].kind != QUIET; m++) {
+            if (tests[t].kind == QUIET) {
+                continue;
+            }
+            bringRowsUpToDate(tests[t]);
+            for (int m = 0; m < MACHINES; m++) {
                 int alarm = cryRow(t, m, s, u, l);
                 first = first == 0 ? alarm : first;
             }
@@ -456,6 +460,14 @@ public final class SlowWatch {
         }
     }
 
+    private void bringRowsUpToDate(Test test) {
+        for (int m = 0; m < MACHINES; m++) {
+            if (test.rows[m].there) {
+                bringUpToDate(test.rows[m]);
+            }
+        }
+    }
+
     /** The table for ODDS is large, and many objects never need it: so it is made at its first use. */
     private Chances readyChances() {
         if (chances == null) {
@@ -464,16 +476,17 @@ public final class SlowWatch {
         return chances;
     }
 
-    private boolean isItsOwn(Test test, Row row, int i) {
+    /** Only for a TEST of which the ROWS are up to date. */
+    private boolean isItsOwn(Test test, int machine, int i) {
+        Row row = test.rows[machine];
         int build = row.cutBuild(i);
         int way = Integer.signum(row.stepSize(i));
         boolean couldShow = false;
         for (int m = 0; m < MACHINES; m++) {
             Row other = test.rows[m];
-            if (other == row || !other.there) {
+            if (m == machine || !other.there) {
                 continue;
             }
-            bringUpToDate(other);
             if (other.stepsNear(build, stepReach, way)) {
                 return false;
             }
@@ -488,10 +501,9 @@ public final class SlowWatch {
         if (!row.there) {
             return 0;
         }
-        bringUpToDate(row);
         int first = 0;
         for (int i = 0; i < row.cutCount(); i++) {
-            if (row.stepSize(i) >= s && isAlarming(tests[t], row, i) && isRare(row, i, u, l)) {
+            if (row.stepSize(i) >= s && isAlarming(tests[t], m, i) && isRare(row, i, u, l)) {
                 int alarm = 1000 * t + 100 * m + row.cutBuild(i);
                 first = first == 0 ? alarm : first;
                 row.rememberAlarm(i);
@@ -502,12 +514,13 @@ public final class SlowWatch {
     }
 
     /** All that makes an ALARM but its SIZE and its ODDS. */
-    private boolean isAlarming(Test test, Row row, int i) {
+    private boolean isAlarming(Test test, int machine, int i) {
+        Row row = test.rows[machine];
         if (row.stepSize(i) <= 0 || row.wasAlarmed(i)) {
             return false;
         }
         boolean undone = test.kind == PAIRED && row.undoingOf(i) != NONE;
-        return !undone && !isItsOwn(test, row, i);
+        return !undone && !isItsOwn(test, machine, i);
     }
 
     private boolean isRare(Row row, int i, int u, int l) {
@@ -671,17 +684,16 @@ public final class SlowWatch {
         }
 
         private void pairStep(int up) {
+            int rise = stepSize(up);
             for (int down = up + 1; down < cutCount(); down++) {
-                if (stepSize(down) < 0 && mates[down] == NONE && isAlike(up, down)) {
+                int fall = -stepSize(down);
+                boolean isAlike = 10 * Math.abs(rise - fall) <= rise;
+                if (fall > 0 && mates[down] == NONE && isAlike) {
                     mates[up] = down;
                     mates[down] = up;
                     return;
                 }
             }
-        }
-
-        private boolean isAlike(int up, int down) {
-            return 10 * Math.abs(stepSize(up) + stepSize(down)) <= stepSize(up);
         }
     }
 
