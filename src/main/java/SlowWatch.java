@@ -93,11 +93,8 @@ public final class SlowWatch {
 
     public int at(int test, int machine, int build) {
         Row row = findRow(test, machine);
-        if (row == null) {
-            return BAD;
-        }
-        if (!row.there) {
-            return refuseWith(NOTHING);
+        if (row == null || !row.there) {
+            return refuseRow(row);
         }
         if (!isPlace(build)) {
             return refuseWith(BEYOND);
@@ -107,11 +104,8 @@ public final class SlowWatch {
 
     public int tear(int test, int machine) {
         Row row = findRow(test, machine);
-        if (row == null) {
-            return BAD;
-        }
-        if (!row.there) {
-            return refuseWith(NOTHING);
+        if (row == null || !row.there) {
+            return refuseRow(row);
         }
         row.empty();
         row.there = false;
@@ -140,11 +134,8 @@ public final class SlowWatch {
 
     public int rank(int test, int machine, int build) {
         Row row = findRow(test, machine);
-        if (row == null) {
-            return BAD;
-        }
-        if (!row.there) {
-            return refuseWith(NOTHING);
+        if (row == null || !row.there) {
+            return refuseRow(row);
         }
         if (!isPlace(build) || build >= buildCount) {
             return refuseWith(BEYOND);
@@ -157,11 +148,8 @@ public final class SlowWatch {
 
     public int mean(int test, int machine) {
         Row row = findRow(test, machine);
-        if (row == null) {
-            return BAD;
-        }
-        if (!row.there) {
-            return refuseWith(NOTHING);
+        if (row == null || !row.there) {
+            return refuseRow(row);
         }
         int sum = 0;
         int counted = 0;
@@ -187,11 +175,8 @@ public final class SlowWatch {
 
     public int cuts(int test, int machine) {
         Row row = findRow(test, machine);
-        if (row == null) {
-            return BAD;
-        }
-        if (!row.there) {
-            return refuseWith(NOTHING);
+        if (row == null || !row.there) {
+            return refuseRow(row);
         }
         bringUpToDate(row);
         told = row.total;
@@ -200,11 +185,8 @@ public final class SlowWatch {
 
     public int cut(int test, int machine, int i) {
         Row row = findRow(test, machine);
-        if (row == null) {
-            return BAD;
-        }
-        if (!row.there) {
-            return refuseWith(NOTHING);
+        if (row == null || !row.there) {
+            return refuseRow(row);
         }
         bringUpToDate(row);
         return row.hasCut(i) ? row.cutBuild(i) : NONE;
@@ -212,11 +194,8 @@ public final class SlowWatch {
 
     public int middle(int test, int machine, int i) {
         Row row = findRow(test, machine);
-        if (row == null) {
-            return BAD;
-        }
-        if (!row.there) {
-            return refuseWith(NOTHING);
+        if (row == null || !row.there) {
+            return refuseRow(row);
         }
         bringUpToDate(row);
         return i >= 0 && i < row.spans ? row.middles[i] : NONE;
@@ -224,11 +203,8 @@ public final class SlowWatch {
 
     public int size(int test, int machine, int i) {
         Row row = findRow(test, machine);
-        if (row == null) {
-            return BAD;
-        }
-        if (!row.there) {
-            return refuseWith(NOTHING);
+        if (row == null || !row.there) {
+            return refuseRow(row);
         }
         bringUpToDate(row);
         if (!row.hasCut(i)) {
@@ -252,11 +228,8 @@ public final class SlowWatch {
     public int own(int test, int machine, int i) {
         Test found = findTest(test);
         Row row = findRow(test, machine);
-        if (found == null || row == null) {
-            return BAD;
-        }
-        if (!row.there) {
-            return refuseWith(NOTHING);
+        if (found == null || row == null || !row.there) {
+            return refuseRow(row);
         }
         bringRowsUpToDate(found);
         if (!row.hasCut(i)) {
@@ -268,11 +241,8 @@ public final class SlowWatch {
     public int undone(int test, int machine, int i) {
         Test found = findTest(test);
         Row row = findRow(test, machine);
-        if (found == null || row == null) {
-            return BAD;
-        }
-        if (!row.there) {
-            return refuseWith(NOTHING);
+        if (found == null || row == null || !row.there) {
+            return refuseRow(row);
         }
         if (found.kind != PAIRED) {
             return refuseWith(UNLIKE);
@@ -283,11 +253,8 @@ public final class SlowWatch {
 
     public int odds(int test, int machine, int i) {
         Row row = findRow(test, machine);
-        if (row == null) {
-            return BAD;
-        }
-        if (!row.there) {
-            return refuseWith(NOTHING);
+        if (row == null || !row.there) {
+            return refuseRow(row);
         }
         bringUpToDate(row);
         if (!row.hasCut(i)) {
@@ -452,6 +419,11 @@ public final class SlowWatch {
         latestFinding = finding;
         findingCounts[finding]++;
         return FINDING;
+    }
+
+    /** For a ROW that no TEST and MACHINE have (null), or that is missing. */
+    private int refuseRow(Row row) {
+        return row == null ? BAD : refuseWith(NOTHING);
     }
 
     private void bringUpToDate(Row row) {

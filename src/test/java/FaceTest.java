@@ -134,16 +134,23 @@ public final class FaceTest {
         longestMethod(code);
     }
 
+    /** A method begins with its type, and ends with a bracket as far in. */
     private static void longestMethod(String code) {
-        int begun = -1;
         String[] lines = code.split("\n");
+        Pattern begin = Pattern.compile("( {4}| {8})(?=\\S)(?!if|for|while|switch|return|else)[\\w\\[\\] ]+\\(.*\\) \\{");
+        int methods = 0;
         for (int k = 0; k < lines.length; k++) {
-            if (lines[k].matches(" {4}( {4})?[\\w\\[\\] ]+\\(.*\\) \\{")) {
-                begun = k;
-            } else if (lines[k].matches(" {4}( {4})?\\}") && begun >= 0) {
-                Check.isTrue("short: " + lines[begun].trim(), k - begun < 60);
-                begun = -1;
+            Matcher m = begin.matcher(lines[k]);
+            if (!m.matches()) {
+                continue;
             }
+            int end = k + 1;
+            while (!lines[end].equals(m.group(1) + "}")) {
+                end++;
+            }
+            methods++;
+            Check.isTrue("short: " + lines[k].trim(), end - k < 60);
         }
+        Check.isTrue("methods were seen: " + methods, methods > METHODS.length);
     }
 }
