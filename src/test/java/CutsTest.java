@@ -98,9 +98,9 @@ public final class CutsTest {
     }
 
     private static void byRanksAlone() {
-        SlowWatch x = Check.withRow(10, 0, 3, 4, 5, 3, 9, 8, 9, 2, 3, 4);
-        SlowWatch y = Check.withRow(10, 0, 30, 400, 5000, 30, 1000000, 80000, 1000000, 0, 30, 400);
         for (int p = 0; p < 60; p++) {
+            SlowWatch x = Check.withRow(10, 0, 3, 4, 5, 3, 9, 8, 9, 2, 3, 4);
+            SlowWatch y = Check.withRow(10, 0, 30, 400, 5000, 30, 1000000, 80000, 1000000, 0, 30, 400);
             x.price(p);
             y.price(p);
             Check.due(13, "cuts of like RANKS, price " + p, y.cuts(0, 0), x.cuts(0, 0));

@@ -102,8 +102,8 @@ public final class HalvingTest {
 
     /** Where all reruns are honest, each BUILD is found, with no more reruns than told. */
     private static void findsEachBuild() {
-        SlowWatch x = withBuilds(40);
         for (int culprit = 4; culprit <= 37; culprit++) {
+            SlowWatch x = withBuilds(40);
             int most = x.halve(3, 37, 3);
             for (int turn = 0; turn < 100 && x.asks() != N; turn++) {
                 x.rerun(x.asks() >= culprit);
@@ -114,8 +114,8 @@ public final class HalvingTest {
     }
 
     private static void findsThoughSomeLie() {
-        SlowWatch x = withBuilds(40);
         for (int culprit = 1; culprit <= 39; culprit++) {
+            SlowWatch x = withBuilds(40);
             x.halve(0, 39, 5);
             for (int turn = 0; turn < 100 && x.asks() != N; turn++) {
                 boolean lie = turn % 5 == culprit % 5 || turn % 5 == 4;
