@@ -24,6 +24,9 @@ public final class CutEdgesTest {
         firstAheadOfSecond();
         onlyBuildsThereAreCut();
         mostCuts();
+        rowsCutOneAfterAnother();
+        cutsOfWhatWasCopied();
+        cutsOfWhatWasTakenAway();
         cutNoneSuch();
         middleAtHalf();
         middleOfFull();
@@ -270,6 +273,56 @@ public final class CutEdgesTest {
         for (int i = 0; i < 13; i++) {
             Check.due(14, "cut " + i + " at 2", x.cut(0, 0, i), 1 + 3 * i);
         }
+    }
+
+    /** Nothing of a longer ROW weighs on a shorter one. */
+    private static void rowsCutOneAfterAnother() {
+        for (int n = 1; n <= 4; n++) {
+            SlowWatch x = Check.withRow(40, 0, 1, 2, 3, 4);
+            x.row(0, 1);
+            for (int b = 0; b < 40; b++) {
+                x.lay(0, 1, b, b % 2);
+            }
+            for (int b = n; b < 4; b++) {
+                x.lay(0, 0, b, N);
+            }
+            // RANKS 20 and 60: 800 without a cut, 760 and a price if the first or the last one is cut off
+            Check.due(13, "cuts of forty by turns", x.cuts(0, 1), 1);
+            Check.due(13, "asked()", x.asked(), 780);
+            Check.due(14, "cut of forty by turns", x.cut(0, 1, 0), 1);
+            int[] costs = {0, 0, 2, 4, 8};
+            cutsAre(x, "the first " + n, costs[n]);
+        }
+    }
+
+    private static void cutsOfWhatWasCopied() {
+        SlowWatch x = Check.withRow(4, 0, 1, 1, 9, 9);
+        x.row(0, 1);
+        x.price(0);
+        cutsAre(x, "levels", 0, 2);
+        x.copy(0, 1, 0, 0, 2, 2);
+        cutsAre(x, "levels, one copied over", 0);
+        x.copy(0, 0, 0, 0, 3, 1);
+        x.lay(0, 0, 0, 2);
+        cutsAre(x, "levels, copied onto itself", 0, 1);
+        x.copy(0, 0, 3, 0, 0, 1);
+        cutsAre(x, "levels, copied back", 0);
+    }
+
+    private static void cutsOfWhatWasTakenAway() {
+        SlowWatch x = Check.withRow(4, 0, 1, 1, 9, 9);
+        x.price(0);
+        cutsAre(x, "levels", 0, 2);
+        x.row(0, 0);
+        cutsAre(x, "levels, made anew", 0);
+        Check.due(15, "middle of it", x.middle(0, 0, 0), N);
+        Check.due(16, "size of it", x.size(0, 0, 0), N);
+        Check.layAll(x, 0, 0, 1, 9);
+        cutsAre(x, "levels, laid anew", 0, 1);
+        x.tear(0, 0);
+        x.row(0, 0);
+        cutsAre(x, "levels, torn and made anew", 0);
+        Check.due(15, "middle of that", x.middle(0, 0, 0), N);
     }
 
     /** "NONE: none such". */

@@ -20,6 +20,8 @@ public final class HalvingEdgesTest {
         rerunsStillToCome();
         rerunAtItsEnd();
         moreSlowThanNot();
+        votesOfThisBuildAlone();
+        votesOfThisHalvingAlone();
         foundAtEitherEnd();
         foundBeforeItsEnd();
         rerunsBeforeAny();
@@ -218,6 +220,30 @@ public final class HalvingEdgesTest {
                 Check.due(26, "found() of votes " + Integer.toBinaryString(set) + " of " + votes, x.found(), want);
             }
         }
+    }
+
+    private static void vote(SlowWatch x, boolean... told) {
+        for (boolean slow : told) {
+            x.rerun(slow);
+        }
+    }
+
+    private static void votesOfThisBuildAlone() {
+        SlowWatch x = halving(9, 0, 8, 3);
+        vote(x, true, true, true);
+        Check.due(24, "asks() after three slow ones", x.asks(), 2);
+        vote(x, false, false, true);
+        Check.due(24, "asks() after one slow one", x.asks(), 3);
+        vote(x, true, true, false);
+        Check.due(26, "found() after two slow ones", x.found(), 3);
+    }
+
+    private static void votesOfThisHalvingAlone() {
+        SlowWatch x = halving(9, 0, 8, 5);
+        vote(x, true, true, true, true);
+        x.halve(0, 8, 3);
+        vote(x, false, false, true);
+        Check.due(24, "asks() after one slow one of a new halving", x.asks(), 6);
     }
 
     /** "one of the BUILDS lo + 1 .. hi did it". */

@@ -18,6 +18,8 @@ public final class StepEdgesTest {
         sharedIfTwoAreMeasuredOnOneSideEach();
         ownOfEachMachine();
         ownByThoseThatCount();
+        ownBesideTheMostSteps();
+        ownBesideAStepThatIsGone();
         ownNoneSuch();
         undoneByATenth();
         undoneByATenthOfTheGreatest();
@@ -31,6 +33,9 @@ public final class StepEdgesTest {
         oddsOfOneBehindAndOneAhead();
         oddsInLowestTerms();
         oddsOfStepsDown();
+        oddsOfLaterCuts();
+        oddsAsGreatOrGreater();
+        oddsByRanksOfTheWholeRow();
         oddsNoneSuch();
         crySizesThatAreTaken();
         cryOddsThatAreTaken();
@@ -44,6 +49,7 @@ public final class StepEdgesTest {
         cryNotItsOwn();
         cryNotTheUndone();
         cryTheSameOnce();
+        cryNoRowThatIsMissing();
         cryTellsTheFirst();
         cryTheGreatestNumber();
         cryByThoseThatCount();
@@ -225,6 +231,44 @@ public final class StepEdgesTest {
         Check.due(18, "own, reach 0", x.own(0, 0, 0), 1);
     }
 
+    private static void ownBesideTheMostSteps() {
+        SlowWatch x = oneStep(40, 5, 9, 39);
+        x.row(0, 1);
+        for (int b = 0; b < 40; b++) {
+            x.lay(0, 1, b, 100 - b);
+        }
+        x.reach(5);
+        Check.due(18, "own beside 39 steps down", x.own(0, 0, 0), 1);
+        for (int b = 0; b < 40; b++) {
+            x.lay(0, 1, b, b);
+        }
+        x.reach(0);
+        Check.due(18, "own beside 39 steps up", x.own(0, 0, 0), 0);
+        Check.due(18, "the last of them", x.own(0, 1, 38), 0);
+        Check.due(18, "the one ahead of it", x.own(0, 1, 37), 1);
+    }
+
+    private static void ownBesideAStepThatIsGone() {
+        SlowWatch x = oneStep(4, 1, 2, 2);
+        levels(x, 0, 1, 4, 5, 6, 2);
+        Check.due(18, "own beside a like step", x.own(0, 0, 0), 0);
+        for (int b = 0; b < 4; b++) {
+            x.lay(0, 1, b, 5);
+        }
+        Check.due(18, "own, it was laid over", x.own(0, 0, 0), 1);
+        x.lay(0, 1, 2, 6);
+        x.lay(0, 1, 3, 6);
+        Check.due(18, "own, it is there again", x.own(0, 0, 0), 0);
+        x.lay(0, 1, 2, N);
+        x.lay(0, 1, 3, N);
+        Check.due(18, "shared, since none could show it", x.own(0, 0, 0), 0);
+        x.row(0, 1);
+        x.row(0, 2);
+        x.lay(0, 2, 0, 3);
+        x.lay(0, 2, 3, 3);
+        Check.due(18, "own, the other ROW is without measurements", x.own(0, 0, 0), 1);
+    }
+
     private static void ownNoneSuch() {
         SlowWatch x = oneStep(4, 1, 2, 2);
         levels(x, 0, 1, 4, 1, 1, 2);
@@ -382,6 +426,62 @@ public final class StepEdgesTest {
         SlowWatch y = priced(10, 9, 5, 9, 1, 9, 1, 1);
         Check.due(14, "the cut of three and four, down", y.cut(0, 0, 0), 3);
         oddsAre(y, "three and four, down", 0, 4, 35);
+    }
+
+    /** "of the MEASURED BUILDS in the two SPANS beside it" alone, with fewer of them on either side. */
+    private static void oddsOfLaterCuts() {
+        SlowWatch x = priced(0, 1, 1, 1, 5, 5, 9, 9, 9, 9, 9, 2);
+        oddsAre(x, "three and two", 0, 1, 10);
+        oddsAre(x, "two and five", 1, 1, 21);
+        oddsAre(x, "five and one, down", 2, 1, 6);
+        SlowWatch y = withTest(40, 0, 0);
+        y.row(0, 0);
+        for (int b = 0; b < 40; b++) {
+            y.lay(0, 0, b, b < 1 ? 1 : b < 3 ? 2 : b < 21 ? 3 : 4);
+        }
+        oddsAre(y, "one and two", 0, 1, 3);
+        oddsAre(y, "two and eighteen", 1, 1, 190);
+        Check.due(20, "odds of eighteen and nineteen", y.odds(0, 0, 2), 0);
+        for (int b = 0; b < 40; b++) {
+            y.lay(0, 0, b, b < 8 ? 1 : b < 10 ? 2 : b < 28 ? 3 : 4);
+        }
+        oddsAre(y, "eight and two", 0, 1, 45);
+        oddsAre(y, "two and eighteen behind eight", 1, 1, 190);
+        for (int b = 0; b < 40; b++) {
+            y.lay(0, 0, b, b < 8 ? 1 : b < 26 ? 2 : b < 28 ? 3 : 4);
+        }
+        Check.due(20, "odds of eight and eighteen", y.odds(0, 0, 0), 0);
+        oddsAre(y, "eighteen and two", 1, 1, 190);
+        oddsAre(y, "two and twelve", 2, 1, 91);
+    }
+
+    /** A choice that is as great counts, one that is less by 1 does not. */
+    private static void oddsAsGreatOrGreater() {
+        // RANKS 4 11 4 1 | 8 8 13: 29 and more are 13 8 8 and twice 13 11 8; twice there is 28, of 13 11 4
+        SlowWatch x = priced(5, 2, 4, 2, 1, 3, 3, 5);
+        Check.due(14, "the cut", x.cut(0, 0, 0), 4);
+        oddsAre(x, "sums that differ by 1", 0, 3, 35);
+        SlowWatch y = priced(5, 4, 2, 4, 5, 3, 3, 1);
+        Check.due(14, "the cut, down", y.cut(0, 0, 0), 4);
+        oddsAre(y, "sums that differ by 1, down", 0, 3, 35);
+    }
+
+    /**
+     * Twenty more between the levels make the RANKS 10, 40 and 70. Ten of them are behind the first cut: seven 70s and
+     * three 10s. As great are all ways with seven 70s and more: 120 * 120 + 45 * 45 + 10 * 10 + 1 of 184756.
+     */
+    private static void oddsByRanksOfTheWholeRow() {
+        int[] values = new int[40];
+        for (int b = 0; b < 40; b++) {
+            boolean odd = b % 10 == 3 || b % 10 == 5 || b % 10 == 7;
+            values[b] = b >= 20 ? 50 : b < 10 == odd ? 100 : 0;
+        }
+        SlowWatch x = priced(100, values);
+        Check.due(13, "cuts", x.cuts(0, 0), 2);
+        Check.due(13, "asked()", x.asked(), 560);
+        Check.due(14, "the first cut", x.cut(0, 0, 0), 10);
+        oddsAre(x, "ten and ten with odd ones", 0, 8263, 92378);
+        Check.due(20, "odds of ten and twenty", x.odds(0, 0, 1), 0);
     }
 
     private static void oddsNoneSuch() {
@@ -565,6 +665,16 @@ public final class StepEdgesTest {
         Check.due(21, "asked()", x.asked(), 1001);
         Check.due(21, "cry at last", x.cry(0, 1, 1), 0);
         Check.due(21, "count(3)", x.count(3), 5);
+    }
+
+    private static void cryNoRowThatIsMissing() {
+        SlowWatch x = oneStep(4, 1, 9, 2);
+        Check.due(21, "cry of too small a step", x.cry(9, 1, 1), 0);
+        x.tear(0, 0);
+        Check.due(21, "cry of a ROW that was torn", x.cry(8, 1, 1), 0);
+        x.row(0, 0);
+        Check.due(21, "cry of a ROW without measurements", x.cry(8, 1, 1), 0);
+        Check.due(31, "count(3)", x.count(3), 0);
     }
 
     /** "how many; the first one by asked()", "MACHINES in order, CUTS in order". */
