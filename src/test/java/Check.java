@@ -10,7 +10,7 @@ final class Check {
         looked++;
         if (got != want) {
             wrong++;
-            System.out.println("promise " + promise + ": " + call + " answered " + got + ", due is " + want);
+            System.out.println(where() + "promise " + promise + ": " + call + " answered " + got + ", due is " + want);
         }
     }
 
@@ -18,8 +18,21 @@ final class Check {
         looked++;
         if (!holds) {
             wrong++;
-            System.out.println("not so: " + what);
+            System.out.println(where() + "not so: " + what);
         }
+    }
+
+    /** The method that main called, so that what failed can be found. */
+    private static String where() {
+        String method = "";
+        for (StackTraceElement frame : new Throwable().getStackTrace()) {
+            if (frame.getMethodName().equals("main")) {
+                break;
+            }
+            boolean own = frame.getClassName().equals("Check");
+            method = own ? "" : frame.getClassName() + "." + frame.getMethodName() + ": ";
+        }
+        return method;
     }
 
     static boolean anyWrong() {

@@ -12,6 +12,7 @@ public final class CutEdgesTest {
         priceOfNought();
         priceOf1000();
         priceJustWorthIt();
+        costOfSpans();
         noCutsWithoutMeasured();
         noCutsWithOneMeasured();
         noCutsWithAllAlike();
@@ -19,6 +20,7 @@ public final class CutEdgesTest {
         allSpansHaveAMeasuredBuild();
         cutsAheadOfMeasuredAlone();
         fewestOfThoseAsCheap();
+        fewestAheadOfEarliest();
         firstCutEarliest();
         thenTheSecond();
         firstAheadOfSecond();
@@ -123,6 +125,22 @@ public final class CutEdgesTest {
         cutsAre(x, "two times twenty at 799 again", 799, 20);
     }
 
+    /** "COST of a SPAN: the sum of how much their RANKS differ from that". */
+    private static void costOfSpans() {
+        int[][] values = {{7}, {7, 7}, {1, 2}, {2, 1}, {1, 2, 3, 4}, {3, 5, 1, 2, 4}, {1, 1, 9}, {9, 1, 1}, {1, 1, 1, 5, 9},
+            {9, 5, 9, 9, 1}, {1, N, 5, N, 9}, {0, MILLION, 1, MILLION - 1, 500, 500}};
+        int[] costs = {0, 0, 2, 2, 8, 12, 3, 3, 10, 10, 4, 16};
+        for (int k = 0; k < costs.length; k++) {
+            SlowWatch x = Check.withRow(values[k].length, 0, values[k]);
+            x.price(1000);
+            cutsAre(x, java.util.Arrays.toString(values[k]), costs[k]);
+        }
+        // RANKS 1 3 6 6 | 13 11 15 17 9: each SPAN from its own MIDDLE, 8 from 6 and 12 from 13
+        SlowWatch y = Check.withRow(9, 0, 1, 2, 3, 3, 90, 80, 95, 99, 70);
+        y.price(12);
+        cutsAre(y, "four and five", 32, 4);
+    }
+
     /** "(no CUTS, if there is none)", "(0 without any)". */
     private static void noCutsWithoutMeasured() {
         for (int price : new int[] {0, 20, 1000}) {
@@ -209,6 +227,19 @@ public final class CutEdgesTest {
         cutsAre(y, "one as cheap as two", 6, 2);
         y.price(2);
         cutsAre(y, "two are cheaper", 4, 2, 3);
+    }
+
+    /** The earliest is looked for among the fewest alone: more cuts as cheap begin ahead of them, or behind them. */
+    private static void fewestAheadOfEarliest() {
+        SlowWatch x = Check.withRow(4, 0, 1, 2, 3, 3);
+        x.price(2);
+        cutsAre(x, "2 alone, or 1 and 2", 4, 2);
+        SlowWatch y = Check.withRow(6, 0, 4, 2, 3, 1, 4, 2);
+        y.price(3);
+        cutsAre(y, "1 alone, or 3, 4 and 5", 15, 1);
+        SlowWatch z = Check.withRow(6, 0, 3, 2, 4, 1, 4, 4);
+        z.price(4);
+        cutsAre(z, "2 alone, 4 alone, or 3 and 4", 14, 2);
     }
 
     /** "of these that whose first CUT is earliest". */

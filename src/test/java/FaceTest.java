@@ -33,6 +33,7 @@ public final class FaceTest {
         face();
         constants();
         innerClasses();
+        sections();
         words();
         Check.end();
     }
@@ -111,6 +112,26 @@ public final class FaceTest {
                 Check.isTrue(f + " is final if static", !isStatic || Modifier.isFinal(((Member) f).getModifiers()));
             }
             Check.isTrue(c + " has at most twenty fields", fields <= 20);
+        }
+    }
+
+    /** "Ahead of the calls .. the interface says": what it says stands ahead of the same calls in the class. */
+    private static void sections() throws IOException {
+        String[] titles = {"1 builds, tests, rows", "2 cuts", "3 what steps are", "4 halving", "5 what is told"};
+        String[] calls = {"builds test is row lay at tear copy rank mean", "price cuts cut middle size",
+            "reach own undone odds cry cried", "halve asks rerun found reruns",
+            "upper lower asked count finding findings digest"};
+        String source = Files.readString(Path.of("src/main/java/SlowWatch.java"));
+        String[] parts = source.split("// ---- ");
+        Check.isTrue("there are five sections, and the help for them", parts.length >= 6);
+        for (int k = 0; k < titles.length && k + 1 < parts.length; k++) {
+            Check.isTrue("section " + titles[k], parts[k + 1].startsWith(titles[k] + "\n"));
+            List<String> names = new ArrayList<>();
+            Matcher m = Pattern.compile("\n    public \\w+ (\\w+)\\(").matcher(parts[k + 1]);
+            while (m.find()) {
+                names.add(m.group(1));
+            }
+            Check.isTrue("the calls of section " + titles[k] + ": " + names, String.join(" ", names).equals(calls[k]));
         }
     }
 

@@ -163,7 +163,7 @@ public final class StepEdgesTest {
     }
 
     private static void sharedIfNoOtherCouldShowIt() {
-        int[][] measured = {{}, {4}, {5}, {0, 1, 2, 3, 4}, {5, 6, 7, 8, 9}};
+        int[][] measured = {{}, {0}, {4}, {5}, {6}, {9}, {0, 1, 2, 3, 4}, {0, 3}, {5, 6, 7, 8, 9}, {6, 9}};
         for (int[] places : measured) {
             SlowWatch x = oneStep(10, 5, 9, 5);
             x.row(0, 1);
