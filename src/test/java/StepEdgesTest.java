@@ -414,6 +414,18 @@ public final class StepEdgesTest {
         SlowWatch y = priced(10, 1, 5, 1, 9, 1, 9, 9);
         Check.due(14, "the cut of three and four", y.cut(0, 0, 0), 3);
         oddsAre(y, "three and four", 0, 4, 35);
+        // RANKS 2 7 2 7 | 13 13 7 13 17: any of the 7s goes with the greater ones, 3 of 126
+        SlowWatch z = priced(8, 1, 4, 1, 4, 5, 5, 4, 5, 6);
+        Check.due(14, "the cut of four and five", z.cut(0, 0, 0), 4);
+        oddsAre(z, "four and five", 0, 1, 42);
+        // RANKS 2 11 2 6 | 11 6 11 15: 43 is one of two 6s with two of three 11s, 48 is all 11s: 7 of 70
+        SlowWatch u = priced(5, 3, 5, 3, 4, 5, 4, 5, 7);
+        Check.due(14, "the cut of four and four again", u.cut(0, 0, 0), 4);
+        oddsAre(u, "four and four again", 0, 1, 10);
+        // RANKS 13 4 13 13 13 | 4 4 13 4: all four 4s, or three of them and one of five 13s: 21 of 126
+        SlowWatch v = priced(12, 5, 4, 5, 5, 5, 4, 4, 5, 4);
+        Check.due(14, "the cut of five and four", v.cut(0, 0, 0), 5);
+        oddsAre(v, "five and four, down", 0, 1, 6);
     }
 
     /** "(a STEP down: as small, or smaller)". */
@@ -698,6 +710,17 @@ public final class StepEdgesTest {
         for (int i = 0; i < want.length; i++) {
             Check.due(22, "cried(" + i + ")", x.cried(i), want[i]);
         }
+        x.tear(1, 3);
+        x.lay(1, 2, 36, 1);
+        x.lay(1, 2, 20, 0);
+        x.lay(1, 2, 0, N);
+        x.lay(1, 2, 37, 2);
+        x.lay(1, 2, 38, 2);
+        // 0 at 20, 1 at 36, 2 from 37 on, 3 at 39: two CUTS of one ROW are new, and 39 is not
+        Check.due(21, "cry of two more", x.cry(0, 1, 1), 2);
+        Check.due(21, "asked()", x.asked(), 1236);
+        Check.due(22, "cried(4)", x.cried(4), 1236);
+        Check.due(22, "cried(5)", x.cried(5), 1237);
     }
 
     /** "1000 times its TEST, 100 times its MACHINE, and the BUILD of its CUT". */

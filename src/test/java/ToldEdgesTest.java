@@ -68,6 +68,12 @@ public final class ToldEdgesTest {
         x.tear(0, 0);
         Check.due(28, "upper() after 0, NONE, refusals, cry", x.upper(), 1);
         Check.due(29, "lower() after 0, NONE, refusals, cry", x.lower(), 3);
+        x.row(0, 0);
+        Check.layAll(x, 0, 0, 1, 9, 9, 9);
+        Check.due(21, "cry of 1 by 4", x.cry(8, 0, 1), 0);
+        Check.due(29, "lower() after cry that looked at ODDS", x.lower(), 3);
+        x.odds(0, 0, 0);
+        Check.due(29, "lower() of the latest odds", x.lower(), 4);
     }
 
     /** "0 before". */
@@ -231,8 +237,25 @@ public final class ToldEdgesTest {
         x.test(3);
         x.asks();
         Check.due(32, "finding() after what was none", x.finding(), 2);
-        x.at(0, 1, 0);
-        Check.due(32, "finding()", x.finding(), 1);
+        int[] latest = {1, 5, 4, 3, 2, 1, 4, 2, 3, 5, 1, 3};
+        for (int f : latest) {
+            find(x, f);
+            Check.due(32, "finding() after " + f, x.finding(), f);
+        }
+    }
+
+    /** On an object with TEST 0 of KIND 0, its ROW on MACHINE 0, BUILD 0, and no other BUILDS and ROWS. */
+    private static void find(SlowWatch x, int finding) {
+        switch (finding) {
+            case 1 -> x.at(0, 1, 0);
+            case 2 -> x.rank(0, 0, 1);
+            case 3 -> x.undone(0, 0, 0);
+            case 4 -> {
+                x.row(0, 0);
+                x.mean(0, 0);
+            }
+            default -> x.copy(0, 0, 0, 0, 0, -1);
+        }
     }
 
     /** "a FINDING (1 .. 5)". */

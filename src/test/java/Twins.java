@@ -49,7 +49,7 @@ final class Twins {
 
     /** All that an object can tell, first without changing it, then by going on with what was begun. */
     private static List<Long> tell(SlowWatch x) {
-        List<Long> all = new ArrayList<>(List.of(x.digest(), x.asked(), x.upper(), x.lower()));
+        List<Long> all = new ArrayList<>(List.of(x.asked(), x.upper(), x.lower(), x.digest()));
         for (int what = 0; what <= 3; what++) {
             all.add((long) x.count(what));
         }
@@ -117,9 +117,9 @@ final class Twins {
             Check.layAll(x, t, 0, 10, 10, 30, 30, N, 11, 11, 11, 50, 51);
             Check.layAll(x, t, 1, 7, 7, 7, 90, 90, 6, 6);
         }
+        x.rank(0, 0, 4);
         x.cry(20, 1, 1);
         x.odds(0, 0, 0);
-        x.rank(0, 0, 4);
         x.halve(1, 7, 3);
         x.rerun(true);
         x.rerun(false);
